@@ -429,16 +429,16 @@ public final class KnitChronicle {
     }
 
     private static boolean isIn(int set, int member) {
-        return isBelow(member, SET_BITS) && (set & (1 << member)) != 0;
+        return member >= 0 && member < SET_BITS && (set & (1 << member)) != 0;
     }
 
     // Rows are read and written by these two alone, so that no index goes unlooked at.
     private static int at(int[] row, int place) {
-        return isBelow(place, row.length) ? row[place] : 0;
+        return place >= 0 && place < row.length ? row[place] : 0;
     }
 
     private static void put(int[] row, int place, int value) {
-        if (isBelow(place, row.length)) {
+        if (place >= 0 && place < row.length) {
             row[place] = value;
         }
     }
@@ -559,7 +559,7 @@ public final class KnitChronicle {
 
         private int lastWholeOf(int colour) {
             for (int stitch = size - 1; stitch >= 0; stitch--) {
-                if (at(colours, stitch) == colour && !isEaten(stitch)) {
+                if (at(colours, stitch) == colour && !isIn(eaten, stitch)) {
                     return stitch;
                 }
             }
