@@ -22,6 +22,20 @@ final class Due {
         is(what, so ? 1 : 0, 1);
     }
 
+    void same(String what, String got, String want) {
+        asked++;
+        if (!got.equals(want)) {
+            wrong++;
+            if (wrong <= 40) {
+                System.out.println(test + ": " + what + " told\n  " + got + ", due is\n  " + want);
+            }
+        }
+    }
+
+    int asked() {
+        return asked;
+    }
+
     int wrong() {
         return wrong;
     }

@@ -483,12 +483,6 @@ final class PromiseTest {
         due.is("what -1", x.hold(1, -1), OUTSIDE);
     }
 
-    private static KnitChronicle knitters(KnitChronicle x, int... tights) {
-        for (int k = 0; k < 4; k++) {
-            x.knitter(k, tights[k]);
-        }
-        return x;
-    }
 
     private static void handsAre(KnitChronicle x, int changes, int... row) {
         due.is("hands", x.hands(), changes);
@@ -501,14 +495,14 @@ final class PromiseTest {
 
     // 18
     private static void hands() {
-        handsAre(knitters(Pads.tights(), 0, 0, 0, 0), 0);
-        handsAre(knitters(Pads.tights(5), 0, 0, 0, 0), NONE, NONE);
-        handsAre(knitters(Pads.tights(5), 3, 7, 6, 4), 0, 2);
-        handsAre(knitters(Pads.tights(5, 5, 9), 5, 5, 5, 5), NONE, NONE, NONE, NONE);
-        handsAre(knitters(Pads.tights(9, 5, 5), 5, 5, 5, 5), NONE, NONE, NONE, NONE);
+        handsAre(Pads.knitters(Pads.tights(), 0, 0, 0, 0), 0);
+        handsAre(Pads.knitters(Pads.tights(5), 0, 0, 0, 0), NONE, NONE);
+        handsAre(Pads.knitters(Pads.tights(5), 3, 7, 6, 4), 0, 2);
+        handsAre(Pads.knitters(Pads.tights(5, 5, 9), 5, 5, 5, 5), NONE, NONE, NONE, NONE);
+        handsAre(Pads.knitters(Pads.tights(9, 5, 5), 5, 5, 5, 5), NONE, NONE, NONE, NONE);
         // knitter 1 knits all, though 0 could begin
-        handsAre(knitters(Pads.tights(1, 2, 3), 0, 2, 4, 9), 0, 1, 1, 1);
-        KnitChronicle eaten = knitters(Pads.tights(1, 9), 1, 1, 1, 1);
+        handsAre(Pads.knitters(Pads.tights(1, 2, 3), 0, 2, 4, 9), 0, 1, 1, 1);
+        KnitChronicle eaten = Pads.knitters(Pads.tights(1, 9), 1, 1, 1, 1);
         Pads.does(eaten, "*B");
         handsAre(eaten, NONE, NONE, NONE);
     }
@@ -516,14 +510,14 @@ final class PromiseTest {
     // 19
     private static void who() {
         // where the change may come sooner or later, 0 knits as long as he can
-        handsAre(knitters(Pads.tights(2, 3, 4, 5), 2, 4, 4, 4), 1, 0, 0, 1, 1);
-        handsAre(knitters(Pads.tights(5, 4, 3, 2), 2, 4, 4, 4), 1, 1, 1, 0, 0);
-        handsAre(knitters(Pads.tights(0, 9, 0, 9), 0, 9, 0, 9), 3, 0, 1, 0, 1);
-        handsAre(knitters(Pads.tights(0, 5, 5, 9), 9, 5, 4, 0), 2, 3, 1, 1, 0);
+        handsAre(Pads.knitters(Pads.tights(2, 3, 4, 5), 2, 4, 4, 4), 1, 0, 0, 1, 1);
+        handsAre(Pads.knitters(Pads.tights(5, 4, 3, 2), 2, 4, 4, 4), 1, 1, 1, 0, 0);
+        handsAre(Pads.knitters(Pads.tights(0, 9, 0, 9), 0, 9, 0, 9), 3, 0, 1, 0, 1);
+        handsAre(Pads.knitters(Pads.tights(0, 5, 5, 9), 9, 5, 4, 0), 2, 3, 1, 1, 0);
         // 0 could begin, but not with as few changes
-        handsAre(knitters(Pads.tights(3, 5, 5), 2, 4, 9, 9), 0, 1, 1, 1);
+        handsAre(Pads.knitters(Pads.tights(3, 5, 5), 2, 4, 9, 9), 0, 1, 1, 1);
         KnitChronicle x = Pads.tights(3);
-        due.is("none fits", knitters(x, 9, 9, 9, 9).who(0), NONE);
+        due.is("none fits", Pads.knitters(x, 9, 9, 9, 9).who(0), NONE);
         due.is("unknown ahead of none", x.who(1), UNKNOWN);
     }
 
