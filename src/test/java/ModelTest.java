@@ -2,7 +2,7 @@ import java.util.Random;
 
 /** Long runs of drawn calls on the class and on the model, call by call; the seeds are fixed, so that runs repeat. */
 final class ModelTest {
-    private static final int RUNS = 1500, CALLS = 512, KINDS = 27;
+    private static final int RUNS = 3600, CALLS = 512, MOST_IN_A_STEP = 91, KINDS = 27;
     private static final Due due = new Due("ModelTest");
 
     private final Random draw;
@@ -10,6 +10,7 @@ final class ModelTest {
     private final Model model = new Model();
     private final int mostStitches;
     private final int run;
+    private int calls;
 
     private ModelTest(int run) {
         this.run = run;
@@ -25,7 +26,7 @@ final class ModelTest {
     }
 
     private void go() {
-        for (int call = 0; call < CALLS; call++) {
+        while (calls + MOST_IN_A_STEP <= CALLS) {
             int kind = draw.nextInt(KINDS);
             // Most of a run is to be asked of scarves that have something to tell.
             if (kind == 1 && draw.nextInt(4) != 0) {
@@ -36,6 +37,11 @@ final class ModelTest {
                 due.end();
             }
         }
+    }
+
+    private void answers(String call, long got, long want) {
+        calls++;
+        due.is(call, got, want);
     }
 
     /** A number of some from 0 on, seldom one just beside them, very seldom any at all. */
@@ -51,11 +57,11 @@ final class ModelTest {
     }
 
     private int stitch() {
-        return some(x.told(1));
+        return some(model.told(1));
     }
 
     private int set() {
-        int n = x.told(1);
+        int n = model.told(1);
         int luck = draw.nextInt(30);
         if (luck == 0) {
             return draw.nextBoolean() ? 1 << n : draw.nextInt();
@@ -76,11 +82,11 @@ final class ModelTest {
 
     /** A few acts, mostly such as can be, sometimes with a sign that spoils them. */
     private void writePad() {
-        due.is(name("wipe"), x.wipe(), model.wipe());
+        answers(name("wipe"), x.wipe(), model.wipe());
         int acts = draw.nextInt(8) == 0 ? 30 : draw.nextInt(6);
         StringBuilder text = new StringBuilder();
         for (int i = 0; i < acts; i++) {
-            text.append(drawnAct(Math.min(mostStitches, x.told(1) + i)));
+            text.append(drawnAct(Math.min(mostStitches, model.told(1) + i)));
         }
         if (text.length() > 0 && draw.nextInt(6) == 0) {
             text.setCharAt(draw.nextInt(text.length()), "abd039-*+AMXY4e".charAt(draw.nextInt(15)));
@@ -89,7 +95,7 @@ final class ModelTest {
             text.setLength(text.length() - 1);
         }
         for (int i = 0; i < text.length(); i++) {
-            due.is(name("say " + text), x.say(text.charAt(i)), model.say(text.charAt(i)));
+            answers(name("say " + text), x.say(text.charAt(i)), model.say(text.charAt(i)));
         }
     }
 
@@ -111,25 +117,25 @@ final class ModelTest {
         int c;
         switch (kind) {
             case 0:
-                if (x.told(1) >= mostStitches && mostStitches < 24) {
-                    due.is(name("cast"), x.cast(), model.cast());
+                if (model.told(1) >= mostStitches && mostStitches < 24) {
+                    answers(name("cast"), x.cast(), model.cast());
                 }
                 a = some(4);
                 b = some(10);
                 c = draw.nextInt(3) == 0 ? -1 : stitch();
-                due.is(name("stitch " + a + " " + b + " " + c), x.stitch(a, b, c), model.stitch(a, b, c));
+                answers(name("stitch " + a + " " + b + " " + c), x.stitch(a, b, c), model.stitch(a, b, c));
                 break;
             case 1:
-                due.is(name("cast"), x.cast(), model.cast());
+                answers(name("cast"), x.cast(), model.cast());
                 break;
             case 2:
                 a = some(4);
                 b = some(10);
-                due.is(name("knitter " + a + " " + b), x.knitter(a, b), model.knitter(a, b));
+                answers(name("knitter " + a + " " + b), x.knitter(a, b), model.knitter(a, b));
                 break;
             case 3:
                 a = 33 + some(94);
-                due.is(name("say " + a), x.say(a), model.say(a));
+                answers(name("say " + a), x.say(a), model.say(a));
                 break;
             case 4:
             case 5:
@@ -137,24 +143,24 @@ final class ModelTest {
                 writePad();
                 break;
             case 7:
-                due.is(name("fault"), x.fault(), model.fault());
+                answers(name("fault"), x.fault(), model.fault());
                 break;
             case 8:
                 a = some(2);
-                due.is(name("judge " + a), x.judge(a), model.judge(a));
+                answers(name("judge " + a), x.judge(a), model.judge(a));
                 break;
             case 9:
-                due.is(name("done"), x.done(), model.done());
+                answers(name("done"), x.done(), model.done());
                 break;
             case 10:
             case 11:
                 a = some(4);
-                due.is(name("behind " + a), x.behind(a), model.behind(a));
+                answers(name("behind " + a), x.behind(a), model.behind(a));
                 break;
             default:
                 a = stitch();
                 b = some(3);
-                due.is(name("of " + a + " " + b), x.of(a, b), model.of(a, b));
+                answers(name("of " + a + " " + b), x.of(a, b), model.of(a, b));
                 break;
         }
     }
@@ -166,7 +172,7 @@ final class ModelTest {
         switch (kind) {
             case 14:
                 a = stitch();
-                due.is(name("pull " + a), x.pull(a), model.pull(a));
+                answers(name("pull " + a), x.pull(a), model.pull(a));
                 break;
             case 15:
                 if (model.triesTooMuch(9)) {
@@ -175,30 +181,30 @@ final class ModelTest {
                 a = set();
                 b = set() & ~(draw.nextInt(4) == 0 ? 0 : a);
                 c = some(2);
-                due.is(name("pulls " + a + " " + b + " " + c), x.pulls(a, b, c), model.pulls(a, b, c));
+                answers(name("pulls " + a + " " + b + " " + c), x.pulls(a, b, c), model.pulls(a, b, c));
                 break;
             case 16:
-                due.is(name("pattern"), x.pattern(), model.pattern());
+                answers(name("pattern"), x.pattern(), model.pattern());
                 break;
             case 17:
                 a = stitch();
-                due.is(name("hole " + a), x.hole(a), model.hole(a));
+                answers(name("hole " + a), x.hole(a), model.hole(a));
                 break;
             case 18:
                 a = some(2);
-                due.is(name("rip " + a), x.rip(a), model.rip(a));
+                answers(name("rip " + a), x.rip(a), model.rip(a));
                 break;
             case 19:
                 a = some(10);
                 b = some(2);
-                due.is(name("hold " + a + " " + b), x.hold(a, b), model.hold(a, b));
+                answers(name("hold " + a + " " + b), x.hold(a, b), model.hold(a, b));
                 break;
             case 20:
-                due.is(name("hands"), x.hands(), model.hands());
+                answers(name("hands"), x.hands(), model.hands());
                 break;
             case 21:
                 a = stitch();
-                due.is(name("who " + a), x.who(a), model.who(a));
+                answers(name("who " + a), x.who(a), model.who(a));
                 break;
             case 22:
                 stepOfSights();
@@ -210,22 +216,22 @@ final class ModelTest {
                 a = set();
                 b = some(11);
                 c = some(2);
-                due.is(name("moths " + a + " " + b + " " + c), x.moths(a, b, c), model.moths(a, b, c));
+                answers(name("moths " + a + " " + b + " " + c), x.moths(a, b, c), model.moths(a, b, c));
                 break;
             case 24:
                 a = some(10000);
                 b = 1 + some(99);
                 c = some(3);
-                due.is(name("year " + a + " " + b + " " + c), x.year(a, b, c), model.year(a, b, c));
+                answers(name("year " + a + " " + b + " " + c), x.year(a, b, c), model.year(a, b, c));
                 break;
             case 25:
                 a = some(2);
                 boolean keeps = draw.nextBoolean();
-                due.is(name("image or restore " + a), keeps ? x.image(a) : x.restore(a), keeps ? model.image(a) : model.restore(a));
+                answers(name("image or restore " + a), keeps ? x.image(a) : x.restore(a), keeps ? model.image(a) : model.restore(a));
                 break;
             default:
                 a = draw.nextBoolean() ? some(15) : 100 * (1 + stitch()) + some(3);
-                due.is(name("told " + a), x.told(a), model.told(a));
+                answers(name("told " + a), x.told(a), model.told(a));
                 break;
         }
     }
@@ -235,18 +241,18 @@ final class ModelTest {
         boolean may = draw.nextInt(3) == 0;
         switch (draw.nextInt(6)) {
             case 0:
-                due.is(name("forget"), x.forget(), model.forget());
+                answers(name("forget"), x.forget(), model.forget());
                 break;
             case 1:
-                due.is(name("tights"), x.tights(), model.tights());
+                answers(name("tights"), x.tights(), model.tights());
                 break;
             case 2:
             case 3:
                 a = some(2);
-                due.is(name("next " + a), x.next(a), model.next(a));
+                answers(name("next " + a), x.next(a), model.next(a));
                 break;
             default:
-                due.is(name("seen " + a + " " + may), x.seen(a, may), model.seen(a, may));
+                answers(name("seen " + a + " " + may), x.seen(a, may), model.seen(a, may));
                 break;
         }
     }
